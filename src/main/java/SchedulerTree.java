@@ -507,12 +507,8 @@ public final class SchedulerTree {
             }
             parent[node] = itsParent;
             childCount[node] = 0;
-            tie[node] = 0;
             rate[node] = 0;
-            burst[node] = 0;
             rankFrom[node] = codeLength;
-            stateFrom[node] = codeLength;
-            programEnd[node] = codeLength;
             if (hasNode(itsParent)) {
                 childCount[itsParent]++;
             }

@@ -73,6 +73,12 @@ final class CountsTest {
         s.calls("checkpoint() = 1; enqueue(0, 1, 0, 0) = 5; advance(1000000) = 4; rollback() = 0; "
                 + "enqueue(0, 1, 0, 0) = 5; nextRelease() = 100; advance(67) = 1; nextRelease() = 200; shaped() = 3; "
                 + "advance(100) = 1; nextRelease() = 500; advance(300) = 1; nextRelease() = 4430");
+        // What the packets of the checkpoint still need: priority for the programs, arrival for the delay.
+        s.loaded("p;0<0@1,0", 2).calls("advance(10) = 0; enqueue(0, 1, 3, 7) = 0; enqueue(0, 1, 8, 7) = 1; "
+                + "dequeue() = 0; virtualTime(0) = 3; checkpoint() = 1; loadTemplate(1) = 1; enqueue(5, 9, 2, 0) = 0; "
+                + "enqueue(5, 9, 1, 0) = 1; dequeue() = 1; rollback() = 0; virtualTime(0) = 3; advance(1000) = 1; "
+                + "queueRank(0, 0) = 8; dequeue() = 1; totalDelay(0) = 1000; greatestDelay(0) = 1000; missed(0) = 1; "
+                + "sentBytes(0) = 2; flowOf(1) = 0");
         // The text and the errors are not kept.
         Script t = new Script("text and checkpoints", 1000);
         t.calls("checkpoint() = 1; type(112) = 1; type(43) = 2; loadTree() = -3; rollback() = 0; errorPosition(2) = 2; "

@@ -16,6 +16,7 @@ final class PacketsTest {
         rounding();
         shapersInARow();
         causeThatLeft();
+        manyReleases();
         Script.end();
     }
 
@@ -158,5 +159,32 @@ final class PacketsTest {
                 + "dequeue() = 1; virtualTime(0) = 10; waiting() = 1; dequeue() = -1; departureIf(0) = 110; "
                 + "departureIf(1)" + ARGUMENT + "advance(100) = 1; queueRank(0, 0) = 20; dequeue() = 0; "
                 + "virtualTime(0) = 20; virtualTime(1) = 5");
+    }
+
+    /** 64 packets through eleven shapers, each of which holds what comes behind the first packet. */
+    private static void manyReleases() {
+        StringBuilder text = new StringBuilder("t");
+        for (int node = 1; node < 12; node++) {
+            text.append(';').append(node - 1).append("<0@").append(12 - node).append(",0");
+        }
+        Script s = new Script("many releases", 1000).loaded(text.toString(), 12);
+        for (int packet = 0; packet < 64; packet++) {
+            s.tree.enqueue(0, 1, 0, 0);
+        }
+        // Node 11 has rate 1: packet k comes from it at k * 1000, and then none of the nodes above is slower.
+        s.calls("waiting() = 64; shaped() = 63; queueLength(0) = 1; nextRelease() = 1000; checkpoint() = 1; "
+                + "departureIf(63) = 63001; advance(62999) = 62; advance(1) = 1; queueRank(0, 63) = 63000; rollback() = 0");
+        // The other way round each node holds longer than the one below.
+        text.setLength(1);
+        for (int node = 1; node < 12; node++) {
+            text.append(';').append(node - 1).append("<0@").append(node).append(",0");
+        }
+        s.loaded(text.toString(), 12);
+        for (int packet = 0; packet < 64; packet++) {
+            s.tree.enqueue(0, 1, 0, 0);
+        }
+        s.calls("shaped() = 63; nextRelease() = 91; checkpoint() = 1; departureIf(63) = 63001; advance(63000) = 693; "
+                + "queueLength(0) = 64; queueRank(0, 63) = 63000; shaped() = 0; rollback() = 0; advance(62999) = 692; "
+                + "nextRelease() = 63000");
     }
 }

@@ -6,6 +6,7 @@ final class QueuesTest {
     public static void main(String[] args) {
         tiesInALeaf();
         tiesInAnInnerNode();
+        tiesBehindLeaving();
         elements();
         states();
         ranksAhead();
@@ -52,6 +53,17 @@ final class QueuesTest {
                 + "queueItem(0, 3) = 3; dequeue() = 1; dequeue() = 0; dequeue() = 2; dequeue() = 3");
         s.loaded("0&;0<0;0<0;0<0^", 4).calls(packets + "queueItem(0, 0) = 1; queueItem(0, 1) = 2; queueItem(0, 2) = 3; "
                 + "queueItem(0, 3) = 3; dequeue() = 1; dequeue() = 2; dequeue() = 3; dequeue() = 0");
+    }
+
+    /** The tie values move up with their elements when others leave. */
+    private static void tiesBehindLeaving() {
+        Script s = new Script("ties behind leaving", 1000);
+        s.loaded("0%", 1).calls("enqueue(0, 10, 0, 0) = 0; enqueue(0, 30, 0, 0) = 1; enqueue(0, 50, 0, 0) = 2; "
+                + "dequeue() = 0; enqueue(0, 40, 0, 0) = 3; enqueue(0, 20, 0, 0) = 4; queueItem(0, 0) = 4; "
+                + "queueItem(0, 1) = 1; queueItem(0, 2) = 3; queueItem(0, 3) = 2; checkpoint() = 1");
+        s.calls("dequeue() = 4; dequeue() = 1; enqueue(0, 1, 0, 0) = 5; enqueue(0, 2, 0, 0) = 6; rollback() = 0; "
+                + "enqueue(0, 35, 0, 0) = 5; queueItem(0, 0) = 4; queueItem(0, 1) = 1; queueItem(0, 2) = 5; "
+                + "queueItem(0, 3) = 3; queueItem(0, 4) = 2");
     }
 
     private static void elements() {

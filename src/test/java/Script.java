@@ -169,8 +169,8 @@ final class Script {
 
     private static int countKept(SchedulerTree x) {
         try {
-            int kept = x.checkpoint();
-            return Math.min(kept, x.commit() + 1) - 1;
+            x.checkpoint();
+            return x.commit();
         } catch (IllegalStateException e) {
             return 3;
         }

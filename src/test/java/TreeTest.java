@@ -29,7 +29,7 @@ final class TreeTest {
         new Script("new object", 100).calls("nodes() = 1; parentOf(0) = -1; children(0) = 0; tieRule(0) = 0; "
                 + "time() = 0; waiting() = 0; shaped() = 0; nextRelease() = -1; leafOf(0) = 0; leafOf(15) = 0; "
                 + "rankIf(3, 7, 5, 9) = 0; virtualTime(0) = 0; state(0, 15) = 0; errorPosition(0) = -1; "
-                + "clearText() = 0; dequeue() = -1; setFlowWeight(15, 1) = 1; setNodeWeight(0, 1) = 1; "
+                + "errorPosition(1) = -1; errorPosition(2) = -1; errorPosition(3) = -1; clearText() = 0; dequeue() = -1; setFlowWeight(15, 1) = 1; setNodeWeight(0, 1) = 1; "
                 + "commit() = throws IllegalStateException");
     }
 
@@ -208,6 +208,12 @@ final class TreeTest {
         s.calls("enqueue(2, 100, 1, 5) = 0; enqueue(2, 100, 1, 5) = 1; shaped() = 1");
         s.loaded("p;0<p@1,0;0<p", 3).calls("shaped() = 0; nextRelease() = -1; enqueue(2, 100, 1, 5) = 0; shaped() = 0; "
                 + "enqueue(2, 100, 1, 5) = 1; nextRelease() = 100000; advance(7) = 0");
+        // A tree without a shaper, loaded behind one that had it.
+        s.calls("checkpoint() = 2").loaded("p;0<p", 2).calls("enqueue(0, 1500, 4, 0) = 0; enqueue(0, 1500, 5, 0) = 1; "
+                + "shaped() = 0; dequeue() = 0; virtualTime(0) = 4; virtualTime(1) = 4");
+        s.loaded("p:p;0<p:p", 2).calls("virtualTime(0) = 0; virtualTime(1) = 0; enqueue(0, 1, 4, 0) = 0; "
+                + "enqueue(15, 1, 6, 0) = 1; state(1, 0) = 4; state(1, 15) = 6; state(0, 1) = 6");
+        s.loaded("p;0<p", 2).calls("state(1, 0) = 0; state(1, 15) = 0; state(0, 1) = 0; rollback() = 1");
         s.refused("p;0<p@0,0", 2, 5, 6).calls("time() = 7; shaped() = 1; nodes() = 3; errorPosition(2) = 6");
         s.calls("rollback() = 0; time() = 200; nodes() = 4; leafOf(2) = 3; sent(2) = 1; setLinkRate(1) = 500; "
                 + "setNodeWeight(1, 1) = 5; setFlowWeight(2, 1) = 9; errorPosition(2) = 6; errorPosition(0) = 2");
