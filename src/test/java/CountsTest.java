@@ -113,12 +113,11 @@ final class CountsTest {
         s.loaded("p*999999*999999*999999;0<-p;0<d@5,0^", 3);
         s.calls("assign(1, 2) = 1");
         for (int packet = 0; packet < 40; packet++) {
-            s.tree.enqueue(packet % 2, 1 + packet, packet % 10, packet);
+            s.times(1, "enqueue(" + packet % 2 + ", " + (1 + packet) + ", " + packet % 10 + ", " + packet + ")");
             print(s.tree, "behind packet " + packet);
         }
         for (int i = 0; i < 30; i++) {
-            s.tree.transmit();
-            s.tree.advance(100);
+            s.times(1, "transmit()", "advance(100)");
             print(s.tree, "behind transmission " + i);
         }
         new Script("fingerprint of one packet", 50).calls("enqueue(0, 10, 0, 0) = 0; dequeue() = 0; advance(5) = 0; "

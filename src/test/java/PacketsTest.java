@@ -74,8 +74,7 @@ final class PacketsTest {
                 + "enqueue(0, 1, 0, 0) = 64; enqueue(0, 1, 0, 0)" + STATE);
         Script t = new Script("500 packets", 1000);
         for (int packet = 0; packet < 500; packet++) {
-            t.tree.enqueue(packet % 16, 1 + packet, 0, 0);
-            t.tree.dequeue();
+            t.times(1, "enqueue(" + packet % 16 + ", " + (1 + packet) + ", 0, 0)", "dequeue()");
         }
         t.calls("waiting() = 0; enqueue(0, 1, 0, 0)" + STATE + "enqueue(0, 1, 10, 0)" + ARGUMENT
                 + "flowOf(499) = 3; flowOf(500)" + INDEX + "rankIf(0, 1, 8, 0) = 0; sent(3) = 32; checkpoint() = 1; "
@@ -168,9 +167,7 @@ final class PacketsTest {
             text.append(';').append(node - 1).append("<0@").append(12 - node).append(",0");
         }
         Script s = new Script("many releases", 1000).loaded(text.toString(), 12);
-        for (int packet = 0; packet < 64; packet++) {
-            s.tree.enqueue(0, 1, 0, 0);
-        }
+        s.times(64, "enqueue(0, 1, 0, 0)");
         // Node 11 has rate 1: packet k comes from it at k * 1000, and then none of the nodes above is slower.
         s.calls("waiting() = 64; shaped() = 63; queueLength(0) = 1; nextRelease() = 1000; checkpoint() = 1; "
                 + "departureIf(63) = 63001; advance(62999) = 62; advance(1) = 1; queueRank(0, 63) = 63000; rollback() = 0");
@@ -180,9 +177,7 @@ final class PacketsTest {
             text.append(';').append(node - 1).append("<0@").append(node).append(",0");
         }
         s.loaded(text.toString(), 12);
-        for (int packet = 0; packet < 64; packet++) {
-            s.tree.enqueue(0, 1, 0, 0);
-        }
+        s.times(64, "enqueue(0, 1, 0, 0)");
         s.calls("shaped() = 63; nextRelease() = 91; checkpoint() = 1; departureIf(63) = 63001; advance(63000) = 693; "
                 + "queueLength(0) = 64; queueRank(0, 63) = 63000; shaped() = 0; rollback() = 0; advance(62999) = 692; "
                 + "nextRelease() = 63000");

@@ -119,9 +119,7 @@ final class QueuesTest {
                 + "dequeue() = 1; peek(0) = 2; peek(1) = 0; peek(2) = -1; advance(10000) = 1; peek(0) = 2; peek(1) = 3; "
                 + "peek(2) = 0; peek(3) = -1");
         Script full = new Script("peeking at 64", 1000).loaded("n", 1);
-        for (int packet = 0; packet < 64; packet++) {
-            full.tree.enqueue(0, 1, 0, 0);
-        }
+        full.times(64, "enqueue(0, 1, 0, 0)");
         full.calls("peek(0) = 0; peek(62) = 62; peek(63) = 63; peek(64) = -1; peek(65) = -1");
     }
 

@@ -8,24 +8,32 @@ import java.util.Set;
 /**
  * A run of calls on one object, written as in the document: "enqueue(0, 5, 0, 0) = 0; time() = 0;
  * rollback() = throws IllegalStateException". Around each call that throws or only asks, everything
- * that can be asked is compared, so that such a call is seen to change nothing.
+ * that can be asked is compared, so that such a call is seen to change nothing. What cannot be asked is
+ * seen at the end: a twin, on which these calls were not made, must go on like the object itself.
  */
 final class Script {
     private static final Set<String> CHANGING = Set.of("type", "clearText", "loadTree", "loadTemplate",
             "setFlowWeight", "setNodeWeight", "assign", "setLinkRate", "enqueue", "dequeue", "transmit",
             "advance", "checkpoint", "rollback", "commit");
+    private static final List<Script> ALL = new ArrayList<>();
     private static int wrong = 0;
 
     final SchedulerTree tree;
+    private final SchedulerTree twin;
     private final String name;
 
     Script(String name, int linkRate) {
         this.name = name;
         this.tree = new SchedulerTree(linkRate);
+        this.twin = new SchedulerTree(linkRate);
+        ALL.add(this);
     }
 
     /** Ends the test's program, with exit code 1 if an answer was not the one that is due. */
     static void end() {
+        for (Script script : ALL) {
+            Twins.compare(script.name, script.tree, script.twin);
+        }
         System.out.println(wrong == 0 ? "all answers are as due" : wrong + " answers are not as due");
         if (wrong != 0) {
             System.exit(1);
@@ -50,10 +58,24 @@ final class Script {
         return this;
     }
 
+    /** Makes calls again and again, none of which may throw; their answers are not looked at. */
+    Script times(int times, String... calls) {
+        for (int i = 0; i < times; i++) {
+            for (String call : calls) {
+                String got = answer(tree, call);
+                due(name + ": throws of " + call, got.startsWith("throws "), false);
+                due(name + ": " + call + " of the twin", answer(twin, call), got);
+            }
+        }
+        return this;
+    }
+
     /** Makes a text stand alone in the buffer. */
     Script typed(String text) {
         tree.clearText();
+        twin.clearText();
         for (int i = 0; i < text.length(); i++) {
+            twin.type(text.charAt(i));
             due(name + ": type of sign " + i + " of " + text, tree.type(text.charAt(i)), i + 1);
         }
         return this;
@@ -61,6 +83,7 @@ final class Script {
 
     Script loaded(String text, int nodes) {
         typed(text);
+        twin.loadTree();
         due(name + ": loadTree() of " + text, tree.loadTree(), nodes);
         due(name + ": text behind loadTree() of " + text, tree.clearText(), 0);
         return errors(text, -1, -1, -1);
@@ -72,6 +95,7 @@ final class Script {
         due(name + ": loadTree() of " + text, tree.loadTree(), -1 - chain[chain.length - 1]);
         due(name + ": all but the errors behind loadTree() of " + text, everything(tree, false), before);
         due(name + ": text behind loadTree() of " + text, tree.clearText(), text.length());
+        twin.clearText();
         return errors(text, chain[0], chain[1], chain.length > 2 ? chain[2] : -1);
     }
 
@@ -91,6 +115,8 @@ final class Script {
         boolean nothingLeft = (method.equals("dequeue") || method.equals("transmit")) && got.equals("-1");
         if (got.startsWith("throws ") || nothingLeft || !CHANGING.contains(method)) {
             due(name + ": everything behind " + call, everything(tree, true), before);
+        } else {
+            due(name + ": " + call + " of the twin", answer(twin, call), got);
         }
     }
 
